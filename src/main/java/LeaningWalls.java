@@ -113,7 +113,9 @@ public final class LeaningWalls {
             return BAD;
         }
         undoable.put(now);
-        now.goDays(county, n);
+        for (int i = 0; i < n; i++) {
+            now.goDay(county, 0);
+        }
         return now.days;
     }
 
@@ -562,7 +564,7 @@ public final class LeaningWalls {
             }
             int f = county.owners[side];
             int share = shares[side];
-            boolean isSick = isSick(f);
+            boolean isSick = (sickBits >> f & 1) == 1;
             switch (county.kinds[f]) {
                 case PLAIN: return isSick ? 0 : share;
                 case MOANER: return isSick ? 2 * share : share;
@@ -583,12 +585,6 @@ public final class LeaningWalls {
             }
             int side = byA < byB ? 2 * w : 2 * w + 1;
             return land[county.owners[side]] > 0 ? side : NONE;
-        }
-
-        void goDays(County county, int n) {
-            for (int i = 0; i < n; i++) {
-                goDay(county, 0);
-            }
         }
 
         /** A day goes by, on which the families in idleBits do nothing: how many feet the walls went. */
@@ -668,7 +664,9 @@ public final class LeaningWalls {
 
         Stand standBehind(County county, Stand from, int n) {
             trial.takeOver(from);
-            trial.goDays(county, n);
+            for (int i = 0; i < n; i++) {
+                trial.goDay(county, 0);
+            }
             return trial;
         }
 
