@@ -16,6 +16,7 @@ public final class ComingEdgesTest {
         bestWaysFirstAndLast();
         bestOfAlike();
         bestOfAllHours();
+        bestNotByFewer();
         bestAtKthWall();
         bestWithoutWall();
         enoughHours0To12();
@@ -78,6 +79,10 @@ public final class ComingEdgesTest {
         Check.due("a foot now", Check.laid("f0,1,5;f1,1,1;w0,1;").gone(0), 1);
         Check.due("nobody loses", Check.laid("f0,1,5;f0,1,5;w0,1;").gone(0), NONE);
         Check.due("no walls", Check.laid("f0,1,5;f0,1,5;").gone(1), NONE);
+        String six = "f0,1,9;f0,1,9;f0,1,9;f0,1,9;f0,1,9;f1,1,#;w0,1;w2,3;w4,5;";
+        Check.due("none of six", Check.laid(six.replace("#", "99")).gone(0), NONE);
+        Check.due("none of six, when", Check.laid(six.replace("#", "99")).gone(1), NONE);
+        Check.due("the last of six", Check.laid(six.replace("#", "9")).gone(0), 5);
     }
 
     /** "behind one of the next 60 DAYS": on day 0 they hold 52 days of work, on day 6 51. */
@@ -186,6 +191,20 @@ public final class ComingEdgesTest {
         Check.due("all of them", x.best(0, 1, 1), 12);
         Check.due("none is shared now", x.wall(0, 3), 0);
         Check.due("it loses as it is", x.behind(1, 0, 0), 8);
+    }
+
+    /** Fewer hours might leave more land behind 14 days, but all of them are shared. */
+    private static void bestNotByFewer() {
+        LeaningWalls x = Check.laid("f4,2,11;f3,1,7;f4,0,5;f3,3,1;w3,0;w1,3;w0,2;w0,1;");
+        Check.due("no land by its hour", x.best(1, 14, 0), 0);
+        Check.due("its hour at the lowest wall", x.best(1, 14, 1), 1);
+        Check.due("none at the next one", x.best(1, 14, 2), 0);
+        x.share(1, 1, 0);
+        x.share(1, 3, 1);
+        Check.due("no land either", x.behind(14, 1, 0), 0);
+        x.share(1, 3, 0);
+        Check.due("a foot without it", x.behind(14, 1, 0), 1);
+        Check.due("its hour is shared all the same", x.best(1, 14, 0), 0);
     }
 
     /** "the SHARE at its k-th WALL (1 to 4; NONE: there are not so many)" */

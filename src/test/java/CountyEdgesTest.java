@@ -20,6 +20,7 @@ public final class CountyEdgesTest {
         towardWhom();
         towardWhomAlone();
         treesByAFoot();
+        treesAtEachWall();
         farTrees();
         leastCounts();
         mostCounts();
@@ -226,6 +227,23 @@ public final class CountyEdgesTest {
                 x.pass(1);
                 y.pass(1);
             }
+        }
+    }
+
+    /** A's and B's at each of the eight walls: a tree at 20 is A's at first, one at 21 is B's. */
+    private static void treesAtEachWall() {
+        int[][] ends = {{0, 1}, {1, 2}, {2, 3}, {3, 4}, {4, 5}, {5, 0}, {0, 2}, {1, 3}};
+        StringBuilder text = new StringBuilder("f0,1,9;f0,1,9;f0,1,9;f0,1,9;f0,1,9;f0,1,9;");
+        for (int[] end : ends) {
+            text.append('w').append(end[0]).append(',').append(end[1]).append(';');
+        }
+        for (int w = 0; w < ends.length; w++) {
+            LeaningWalls x = Check.laid(text + "t" + w + ",20;t" + w + ",21;");
+            Check.due("A's at wall " + w, x.tree(0), ends[w][0]);
+            Check.due("B's at wall " + w, x.tree(1), ends[w][1]);
+            Check.due("A's bits", x.family(ends[w][0], 5), 1);
+            Check.due("B's bits", x.family(ends[w][1], 5), 2);
+            Check.due("A's behind none", x.behind(0, 0, 2), ends[w][0]);
         }
     }
 
