@@ -410,15 +410,22 @@ public final class ComingEdgesTest {
         }
     }
 
-    /** "behind the first round (of 20 at most) in which nobody's HOURS change": that is the twentieth one here. */
+    /**
+     * "behind the first round (of 20 at most) in which nobody's HOURS change: HOURS of a FAMILY; none": by the first
+     * shares that is the twenty-first round, by those that the first round of them makes the twentieth.
+     */
     private static void allRoundsUpTo20() {
-        LeaningWalls x = Check.laid("f4,12,9;f2,12,36;f4,12,12;f4,12,6;f2,12,6;f4,12,2;"
-            + "w1,2;w4,2;w5,4;w0,4;w2,3;w1,0;w5,3;w3,1;");
-        int[][] shares = {{1, 10}, {0, 1}, {6, 2}, {1, 10}, {0, 4}, {7, 1}, {5, 6}, {1, 2}};
-        shareAll(x, shares);
-        int[] settled = {10, 12, 0, 12, 0, 0};
-        for (int f = 0; f < 6; f++) {
-            Check.due("settled in the twentieth round, " + f, x.all(f), settled[f]);
+        LeaningWalls x = Check.laid("f0,12,0;f2,12,27;f2,12,15;f4,12,6;f0,12,12;"
+            + "w4,3;w3,2;w1,0;w2,1;w4,3;w0,4;w4,2;w2,3;");
+        shareAll(x, new int[][] {{0, 5}, {3, 0}, {4, 4}, {0, 1}, {2, 3}, {6, 1}, {8, 4}, {3, 1}});
+        for (int f = 0; f < 5; f++) {
+            Check.due("settled too late, " + f, x.all(f), NONE);
+        }
+        // 9, 11, 0, 4, 6 hours, evenly
+        shareAll(x, new int[][] {{2, 1}, {1, 0}, {6, 5}, {0, 5}, {2, 1}, {4, 1}, {1, 0}, {0, 1}});
+        int[] settled = {0, 8, 12, 12, 0};
+        for (int f = 0; f < 5; f++) {
+            Check.due("settled in the last round, " + f, x.all(f), settled[f]);
         }
     }
 
